@@ -428,20 +428,20 @@ public final class RiichiTable {
         int taker = findAnswer(SAY_QUAD);
         if (taker != BAD) {
             players[taker].concealed[tile] -= 3;
-            take(taker, tile, OPEN_QUAD);
+            layDown(taker, tile, OPEN_QUAD);
             completeQuad();
             return;
         }
         taker = findAnswer(SAY_TRIPLET);
         if (taker != BAD) {
             players[taker].concealed[tile] -= 2;
-            take(taker, tile, TRIPLET);
+            layDown(taker, tile, TRIPLET);
             return;
         }
         taker = findAnswer(SAY_RUN);
         if (taker != BAD) {
             players[taker].giveRestOfRun(players[taker].low, tile);
-            take(taker, players[taker].low, RUN);
+            layDown(taker, players[taker].low, RUN);
             return;
         }
         if (wall.countLeft() == 0) {
@@ -451,7 +451,8 @@ public final class RiichiTable {
         }
     }
 
-    private void take(int taker, int kind, int form) {
+    /** Makes the meld of who takes the discard, and gives them the turn. */
+    private void layDown(int taker, int kind, int form) {
         players[taker].addMeld(kind, form);
         players[taker].forgetMissed();
         noteCall();
@@ -499,32 +500,28 @@ public final class RiichiTable {
         judge.lookAt(player, tile, byDraw);
         judge.seatWind = EAST + (p + PLAYERS - dealer) % PLAYERS;
         judge.roundWind = EAST + round;
-        judge.happened = byDraw ? happenedByDraw(p) : happenedByTile();
-        if (player.riichi != 0) {
-            judge.happened |= player.riichi == 2 ? 1L << 1 : 1L;
-            judge.happened |= player.fresh ? 1L << 2 : 0L;
-        }
+        judge.happened = yakuOfRiichi(player) | (byDraw ? yakuOfDraw(p) : yakuOfTile());
         judge.dora = wall.countDora(judge.all, player.riichi != 0);
     }
 
-    private long happenedByDraw(int p) {
-        long found = players[p].isClosed() ? 1L << 3 : 0L;
-        if (replacement) {
-            found |= 1L << 4;
-        } else if (wall.countLeft() == 0) {
-            found |= 1L << 6;
-        }
-        if (players[p].riverCount == 0 && !called) {
-            found |= p == dealer ? 1L << 40 : 1L << 41;
-        }
-        return found;
+    /** Yaku are sets of bits here, numbered as in the document. */
+    private static long yakuOfRiichi(Player player) {
+        return Judge.bitIf(player.riichi == 1, 0)
+                | Judge.bitIf(player.riichi == 2, 1)
+                | Judge.bitIf(player.riichi != 0 && player.fresh, 2);
     }
 
-    private long happenedByTile() {
-        if (robbing) {
-            return 1L << 5;
-        }
-        return wall.countLeft() == 0 ? 1L << 7 : 0L;
+    private long yakuOfDraw(int p) {
+        boolean first = players[p].riverCount == 0 && !called;
+        return Judge.bitIf(players[p].isClosed(), 3)
+                | Judge.bitIf(replacement, 4)
+                | Judge.bitIf(!replacement && wall.countLeft() == 0, 6)
+                | Judge.bitIf(first && p == dealer, 40)
+                | Judge.bitIf(first && p != dealer, 41);
+    }
+
+    private long yakuOfTile() {
+        return Judge.bitIf(robbing, 5) | Judge.bitIf(!robbing && wall.countLeft() == 0, 7);
     }
 
     private void payForTile() {
@@ -542,7 +539,7 @@ public final class RiichiTable {
                 players[who].points -= due;
                 winner.points += due + extra;
                 winner.won.got = due + extra;
-                dealerWon |= p == dealer;
+                dealerWon = dealerWon || p == dealer;
                 honbaDue = 0;
                 extra = 0;
             }
@@ -712,8 +709,8 @@ public final class RiichiTable {
 
     /** A player's points and tiles, and what they have done in this hand. */
     private static final class Player {
-        /** More than a hand has draws and calls together. */
-        private static final int RIVER = 136;
+        /** More than the 70 draws and at most 16 calls of a hand together. */
+        private static final int RIVER = 96;
 
         private final int[] concealed = new int[KINDS];
         private final int[] melds = new int[SETS];
@@ -1200,7 +1197,7 @@ public final class RiichiTable {
             return han == 5 ? 2000 : Math.min(2000, fu << 2 + han);
         }
 
-        private static long bitIf(boolean holds, int y) {
+        static long bitIf(boolean holds, int y) {
             return holds ? 1L << y : 0L;
         }
 
@@ -1211,7 +1208,8 @@ public final class RiichiTable {
         private long kindsOfSets(boolean runs) {
             long found = 0;
             for (int i = 0; i < SETS; i++) {
-                if (sets[i] % 4 == RUN == runs) {
+                boolean isRun = sets[i] % 4 == RUN;
+                if (isRun == runs) {
                     found |= 1L << sets[i] / 4;
                 }
             }
@@ -1278,7 +1276,7 @@ public final class RiichiTable {
                 if (!Shape.isOuter(kind) && !lastOfSuit) {
                     return 0;
                 }
-                honour |= kind >= SUITED;
+                honour = honour || kind >= SUITED;
             }
             return 1L << (honour ? 17 : 18);
         }

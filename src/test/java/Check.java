@@ -1,0 +1,29 @@
+/** Counts and prints the answers that are not as due. */
+final class Check {
+    private int wrong;
+    private int made;
+
+    void due(String what, long got, long want) {
+        made++;
+        if (got != want) {
+            wrong++;
+            System.out.println(what + " answered " + got + ", due is " + want);
+        }
+    }
+
+    void due(String what, boolean got, boolean want) {
+        due(what, got ? 1 : 0, want ? 1 : 0);
+    }
+
+    /** Ends the test: exit code 1 when an answer was wrong. */
+    void end() {
+        System.out.println(made + " answers, " + wrong + " wrong");
+        if (wrong != 0) System.exit(1);
+    }
+
+    static long bits(int... numbers) {
+        long sum = 0;
+        for (int n : numbers) sum |= 1L << n;
+        return sum;
+    }
+}
