@@ -80,8 +80,6 @@ public final class RiichiTable {
             wall.dealTo(player.concealed, s);
         }
         called = false;
-        robbing = false;
-        stickDue = false;
         drawFor(dealer);
         return true;
     }
@@ -321,10 +319,7 @@ public final class RiichiTable {
         for (int p = 0; p < PLAYERS; p++) {
             Player player = players[p];
             player.answer = SAY_NOTHING;
-            player.options = 0;
-            if (p != who) {
-                player.options = (mayWin(p) ? MAY_WIN : 0) | findTakes(p);
-            }
+            player.options = p == who ? 0 : findTakes(p) | (mayWin(p) ? MAY_WIN : 0);
         }
         return isAnswerMissing();
     }
@@ -419,7 +414,6 @@ public final class RiichiTable {
         if (stickDue) {
             players[who].points -= STICK;
             sticks++;
-            stickDue = false;
         }
     }
 
@@ -458,7 +452,6 @@ public final class RiichiTable {
         noteCall();
         who = taker;
         tile = BAD;
-        replacement = false;
         phase = TURN;
     }
 
@@ -471,7 +464,6 @@ public final class RiichiTable {
 
     private void completeAddedQuad() {
         players[who].raiseTriplet(tile);
-        robbing = false;
         completeQuad();
     }
 
@@ -738,8 +730,6 @@ public final class RiichiTable {
             riichi = 0;
             fresh = false;
             missed = false;
-            options = 0;
-            answer = SAY_NOTHING;
         }
 
         void layOff(int kind) {
@@ -1010,10 +1000,8 @@ public final class RiichiTable {
 
         /** All tiles of the lowest kind go into parts that have none below it. */
         private void tryParts(int kind, int triplets, int pairs, int depth) {
-            int count = tiles[kind];
-            int runs = count - 3 * triplets - 2 * pairs;
-            if (runs < 0 || pairs == 1 && pair != BAD
-                    || setCount + triplets + runs > SETS || !hasRuns(kind, runs)) {
+            int runs = tiles[kind] - 3 * triplets - 2 * pairs;
+            if (runs < 0 || pairs == 1 && pair != BAD || !hasRuns(kind, runs)) {
                 return;
             }
             int pairBefore = pair;
@@ -1023,11 +1011,9 @@ public final class RiichiTable {
             }
             addSets(4 * kind + TRIPLET, triplets);
             addSets(4 * kind + RUN, runs);
-            tiles[kind] = 0;
             removeBehind(kind, runs);
             takeApart(kind + 1, depth + 1);
             removeBehind(kind, -runs);
-            tiles[kind] = count;
             setCount = setsBefore;
             pair = pairBefore;
         }
@@ -1194,7 +1180,8 @@ public final class RiichiTable {
             if (han >= 6) {
                 return 3000;
             }
-            return han == 5 ? 2000 : Math.min(2000, fu << 2 + han);
+            // 5 han need no line of their own: even 20 fu, the fewest, go beyond 2000 then.
+            return Math.min(2000, fu << 2 + han);
         }
 
         static long bitIf(boolean holds, int y) {
@@ -1252,15 +1239,12 @@ public final class RiichiTable {
 
         private int countPairsOfRuns() {
             int pairs = 0;
-            int used = 0;
             for (int i = 0; i < SETS; i++) {
-                for (int j = i + 1; j < SETS; j++) {
-                    boolean free = (used >> i & 1) == 0 && (used >> j & 1) == 0;
-                    if (free && sets[i] == sets[j] && sets[i] % 4 == RUN) {
-                        used |= 1 << i | 1 << j;
-                        pairs++;
-                    }
+                int alike = 0;
+                for (int j = 0; j <= i; j++) {
+                    alike += sets[j] == sets[i] ? 1 : 0;
                 }
+                pairs += sets[i] % 4 == RUN && alike % 2 == 0 ? 1 : 0;
             }
             return pairs;
         }

@@ -82,6 +82,21 @@ public final class ClaimTest {
         options("still asked", table, 0, RUN, 0, 0);
         CHECK.due("run", table.claim(1, 1, k("3p")), 1);
 
+        // Runs that are whole without the tile do not take it.
+        table = fiveOfP("234678p 123m 159s 7z");
+        table.discard(k("5p"), false);
+        for (String low : new String[] {"2p", "6p", "1m"}) CHECK.due("run of " + low, table.claim(1, 1, k(low)), -1);
+        CHECK.due("run", table.claim(1, 1, k("5p")), 1);
+
+        // The first and the last run of a suit.
+        String[][] ends = {{"1m", "23m", "1m"}, {"3m", "12m", "1m"}, {"9s", "78s", "7s"}, {"7p", "89p", "7p"}};
+        for (String[] end : ends) {
+            table = new Scene().hand(0, end[0]).hand(1, end[1] + "3456z").hand(2, QUIET).draws("1z").deal();
+            table.discard(k(end[0]), false);
+            CHECK.due("run of " + end[2], table.claim(1, 1, k(end[2])), 1);
+            CHECK.due("meld of " + end[2], table.meld(1, 0), 4 * k(end[2]));
+        }
+
         // No run reaches from 9 to 1, nor into another suit, nor are there runs of honours.
         table = new Scene().hand(0, "9m 1p 2z 5z").hand(1, "8m 1m 1p 2p 67z 13z").hand(2, QUIET).hand(3, QUIET)
                 .draws("7s").deal();
@@ -230,6 +245,13 @@ public final class ClaimTest {
     private static void atTheEnd() {
         Scene scene = new Scene().hand(0, "147m 258p 369s 3456z").hand(1, "5p 147m 28p 369s 3457z")
                 .hand(2, "46p 55p 22p 147m 369s 1z").hand(3, "345m 678m 34p 678s 88s");
+        Scene other = new Scene().hand(0, "5p 147m 28p 369s 3457z").hand(1, "46p 55p 22p 147m 369s 1z")
+                .hand(2, "147m 258p 369s 3456z").hand(3, "345m 678m 34p 678s 88s");
+        RiichiTable early = other.deal();
+        Scene.letGoDrawn(early, 68);
+        CHECK.due("left", early.table(4), 1);
+        CHECK.due("discard", early.discard(k("5p"), false), 2);
+        options("left 1", early, 0, RUN + TRIPLET, 0, WIN);
         for (int left = 0; left < 2; left++) {
             RiichiTable table = scene.deal();
             Scene.letGoDrawn(table, left == 0 ? 69 : 65);

@@ -12,7 +12,10 @@ public final class EndTest {
         for (int ready = 0; ready < 16; ready++) drawnOut(ready);
         rounds();
         secondRoundWind();
-        sticksAtTheEnd();
+        sticksAtTheEnd(false);
+        sticksAtTheEnd(true);
+        seatWinds();
+        nothingStays();
         CHECK.end();
     }
 
@@ -219,8 +222,62 @@ public final class EndTest {
         }
     }
 
-    /** Players 1 and 2 are level when the last hand is drawn out: 1 gets the sticks. */
-    private static void sticksAtTheEnd() {
+    /** The seat wind goes with the dealer, who is player 1 here. */
+    private static void seatWinds() {
+        for (int wind = 2; wind <= 4; wind++) {
+            RiichiTable table = new RiichiTable(77);
+            orphansDrawn(table, 1);
+            table.next();
+            String triplet = wind + "" + wind + wind + "z";
+            new Scene().hand(0, "147m 258p 39s 567z").hand(1, "147m 258p 39s 567z").hand(2, "6s 147m 258p 39s 567z")
+                    .hand(3, triplet + "345m 678p 45s 99p").draws("8s 9m 2m").dealOn(table);
+            Scene.letGoDrawn(table, 2);
+            table.discard(k("6s"), false);
+            CHECK.due("player 0 with wind " + wind, table.options(0) & 16, wind == 4 ? 16 : 0);
+        }
+    }
+
+    /** Melds, quads, riichi, what was missed and that somebody called end with the hand. */
+    private static void nothingStays() {
+        RiichiTable table = new Scene().hand(0, "7777z 123m 456m 99p 3s").hand(1, READY).hand(2, "5s 147m 258p 69s 23z")
+                .hand(3, QUIET).draws("4s 6z 1z 1z 2s").replacements("1z").deal();
+        CHECK.due("quad", table.quad(k("7z")), 1);
+        Scene.letGo(table, k("1z"));
+        CHECK.due("riichi", table.discard(k("6z"), true) > 0, true);
+        Scene.pass(table);
+        table.discard(k("5s"), false);
+        CHECK.due("can be won", table.options(1), 16);
+        Scene.pass(table);
+        CHECK.due("missed", table.furiten(1), true);
+        Scene.letGoDrawn(table, 1);
+        CHECK.due("dealer again", table.who(), 0);
+        CHECK.due("wins", table.win() >= 1, true);
+        CHECK.due("quads", table.table(5), 1);
+        table.next();
+        new Scene().hand(0, QUIET).hand(1, READY).draws("1z 5s").dealOn(table);
+        CHECK.due("no quads", table.table(5), 0);
+        CHECK.due("left", table.table(4), 69);
+        CHECK.due("no melds", table.meld(0, 0), -1);
+        CHECK.due("nothing missed", table.furiten(1), false);
+        CHECK.due("ready", table.waits(1), Scene.mask("58s"));
+        Scene.letGo(table, k("1z"));
+        CHECK.due("not in riichi", table.discard(k("2m"), false) > 0, true);
+        Scene.pass(table);
+
+        table = new Scene().hand(0, "7z 147m 258p 369s 12z").hand(1, "77z 147m 258p 369s 12z").hand(2, READY)
+                .draws("6z 5s").deal();
+        table.discard(k("7z"), false);
+        table.claim(1, 2, 0);
+        Scene.letGo(table, k("1m"));
+        CHECK.due("won behind a call", table.win() < 13, true);
+        table.next();
+        new Scene().hand(0, READY).draws("5s").dealOn(table);
+        CHECK.due("nobody has called in this hand", table.win(), 13);
+        CHECK.due("first go-round", table.yaku(1), Check.bits(40));
+    }
+
+    /** Players 1 and 2 are level when the last hand is drawn out: 1 gets the sticks, or else player 0. */
+    private static void sticksAtTheEnd(boolean zeroIsReady) {
         RiichiTable table = new RiichiTable(5);
         for (int hand = 0; hand < 4; hand++) {
             orphansDrawn(table, 1);
@@ -246,7 +303,7 @@ public final class EndTest {
         }
         points("before the last hand", table, 62000, 62000, 62000, -66000);
         table("before the last hand", table, 3, 1, 0, 0);
-        new Scene().hand(0, "14m 149p 369s 2345z").hand(1, "14m 149p 369s 2345z").hand(2, "555m 666m 777m 888m 7z")
+        new Scene().hand(0, "14m 149p 369s 2345z").hand(1, zeroIsReady ? "111s 222s 333s 444s 7z" : "14m 149p 369s 2345z").hand(2, "555m 666m 777m 888m 7z")
                 .hand(3, "555p 666p 777p 888p 6z").draws("1z 1z").put(54, "1z 1z").dealOn(table);
         Scene.letGoDrawn(table, 2);
         CHECK.due("riichi of 1", table.discard(k("1z"), true), 1);
@@ -254,7 +311,8 @@ public final class EndTest {
         table("two sticks", table, 3, 1, 0, 2);
         for (int i = 0; i < 66; i++) Scene.letGo(table, table.drawn());
         CHECK.due("finished", table.phase(), 4);
-        points("the sticks go to 1", table, 60500, 64500, 62500, -67500);
+        if (zeroIsReady) points("the sticks go to 0", table, 65000, 62000, 62000, -69000);
+        else points("the sticks go to 1", table, 60500, 64500, 62500, -67500);
         table("the end", table, 3, 1, 1, 0);
         isFinished(table);
     }

@@ -13,6 +13,7 @@ public final class FuritenTest {
         missedWithoutYaku();
         missedWhileOthersTake();
         missedInRiichi();
+        ownDiscardMissedInRiichi();
         takesTheTile();
         addedQuadMissed();
         CHECK.end();
@@ -44,6 +45,8 @@ public final class FuritenTest {
         waitsOf("19m 19p 19s 1234567z", "19m 19p 19s 1234567z");
         waitsOf("19m 19p 19s 1134567z", "2z");
         waitsOf("19m 19p 12s 1234567z", "");
+        waitsOf("99m 19p 19s 1234567z", "1m");
+        waitsOf("11m 19p 19s 1234567z", "9m");
         waitsOf("1112345678999p", "123456789p");
         waitsOf("1111m 234p 567p 789s", "");
         waitsOf("1111m 23m 567p 789s 1z", "1z");
@@ -70,6 +73,25 @@ public final class FuritenTest {
         CHECK.due("one to discard", table.waits(0), 0);
         Scene.letGo(table, k("1z"));
         CHECK.due("5m is all one's own", table.waits(0), Scene.mask("9p"));
+
+        // Three of a triplet and two of a run are not all four.
+        table = new Scene().hand(0, "33m 12m 456p 789s 9p 2z 1z").hand(1, QUIET).hand(3, "3m").draws("9p 7z 7z 7z").deal();
+        Scene.letGo(table, k("2z"));
+        Scene.letGoDrawn(table, 2);
+        table.discard(k("3m"), false);
+        CHECK.due("triplet", table.claim(0, 2, 0), 1);
+        Scene.letGo(table, k("1z"));
+        CHECK.due("the fourth 3m", table.waits(0), Scene.mask("3m"));
+
+        table = new Scene().hand(0, "23m 33m 456p 789s 9p 2z 1z").hand(1, QUIET).hand(3, "1m").draws("9p 7z 7z 7z").deal();
+        Scene.letGo(table, k("2z"));
+        Scene.letGoDrawn(table, 2);
+        table.discard(k("1m"), false);
+        table.claim(0, 1, k("1m"));
+        Scene.pass(table);
+        CHECK.due("run", table.meld(0, 0), 4 * k("1m"));
+        Scene.letGo(table, k("1z"));
+        CHECK.due("the fourth 3m", table.waits(0), Scene.mask("3m 9p"));
 
         // With melds there are neither seven pairs nor orphans.
         table = new Scene().hand(0, "7777z 1122m 3344p 5s").hand(1, QUIET).draws("5s").replacements("6z").deal();
@@ -178,6 +200,19 @@ public final class FuritenTest {
         CHECK.due("who", table.who(), 0);
         CHECK.due("drawn", table.drawn(), k("5s"));
         CHECK.due("by what is drawn", table.win() > 0, true);
+    }
+
+    /** The words about missing leave nobody out, so that one's own discard is missed too. */
+    private static void ownDiscardMissedInRiichi() {
+        RiichiTable table = new Scene().hand(0, "234m 678m 345p 67s 99p").hand(1, QUIET).hand(2, QUIET).hand(3, QUIET)
+                .draws("5s 7z 7z 7z 1z").deal();
+        CHECK.due("riichi with one of the waits", table.discard(k("5s"), true) > 0, true);
+        Scene.pass(table);
+        CHECK.due("furiten", table.furiten(0), true);
+        Scene.letGoDrawn(table, 3);
+        CHECK.due("who", table.who(), 0);
+        CHECK.due("no waits now", table.waits(0), 0);
+        CHECK.due("missed", table.furiten(0), true);
     }
 
     private static void takesTheTile() {

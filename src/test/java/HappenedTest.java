@@ -14,7 +14,10 @@ public final class HappenedTest {
         freshEnds();
         replacements();
         lastTiles();
+        openHands();
+        riichiAlone();
         dora();
+        doraBehindQuads();
         doraOfKinds();
         CHECK.end();
     }
@@ -219,6 +222,90 @@ public final class HappenedTest {
         table.discard(k("5p"), false);
         winFirst(table, 3);
         worth("last discard", table, 3, Check.bits(7, 8, 24), 3, 30, 960, 3900);
+    }
+
+    /** Player 1 has an open triplet of 3z, which is no yaku. */
+    private static void openHands() {
+        Scene scene = new Scene().hand(0, "3z 77z 147m 258p 8s 49s 1z").hand(1, "33z 7z 234m 678m 67s 99p")
+                .hand(2, "5588s 147m 258p 146z").hand(3, "58s 147m 258p 13469s").put(121, "5s").indicators("1z", "");
+        for (int last = 6; last <= 7; last++) {
+            RiichiTable table = scene.deal();
+            table.discard(k("3z"), false);
+            CHECK.due("open", table.claim(1, 2, 0), 1);
+            table.discard(k("7z"), false);
+            // When player 0 takes 7z, player 1 draws last, else player 2.
+            CHECK.due("7z", table.claim(0, last == 6 ? 2 : 0, 0), 1);
+            if (last == 6) Scene.letGo(table, k("1m"));
+            Scene.letGoDrawn(table, 68);
+            CHECK.due("left", table.table(4), 0);
+            CHECK.due("the last tile", table.drawn(), k("5s"));
+            if (last == 6) {
+                CHECK.due("last draw", table.win(), 1);
+                worth("last draw, open", table, 1, Check.bits(6), 1, 30, 240, 1100);
+            } else {
+                table.discard(k("5s"), false);
+                winFirst(table, 1);
+                worth("last discard, open", table, 1, Check.bits(7), 1, 30, 240, 1000);
+            }
+        }
+
+        RiichiTable table = new Scene().hand(0, "4z 159m 159p 15s 1266z").hand(1, "33s 22z 7m 37p 339m 5m 6m 8s")
+                .hand(2, "44z 1z 123m 678m 12s 99p").hand(3, "3s 258m 258p 8s 2z 77z 9s").draws("5z 5z 5z 6z 6z 3s")
+                .indicators("4z", "").deal();
+        table.discard(k("4z"), false);
+        table.claim(2, 2, 0);
+        Scene.letGo(table, k("1z"));
+        table.discard(k("3s"), false);
+        table.claim(1, 2, 0);
+        Scene.pass(table);
+        Scene.letGo(table, k("5m"));
+        Scene.letGoDrawn(table, 3);
+        CHECK.due("added", table.quad(k("3s")), 2);
+        winFirst(table, 2);
+        worth("robbed, open", table, 2, Check.bits(5), 1, 30, 240, 1000);
+    }
+
+    private static void riichiAlone() {
+        RiichiTable table = new Scene().hand(0, "234m 678m 345p 68s 99p").hand(1, "7s 147m 258p 34z 1s 2s").hand(2, QUIET)
+                .hand(3, QUIET).draws("1z 7z 7z 7z 6z 7z 6z 6z 4z 1z").indicators("1s", "1s").deal();
+        Scene.letGoDrawn(table, 4);
+        table.discard(table.drawn(), true);
+        Scene.letGoDrawn(table, 4);
+        table.discard(k("7s"), false);
+        winFirst(table, 0);
+        worth("riichi alone", table, 0, Check.bits(0), 1, 40, 320, 3000);
+    }
+
+    /** The dora are told by what quads have turned up, up to the fifth; in riichi also by what lies under that. */
+    private static void doraBehindQuads() {
+        RiichiTable table = new Scene().hand(0, "1111z 2222z 3333z 9m").hand(1, "5555z 5s 14m 25p 69s 7s 9m").hand(2, READY).hand(3, "147m")
+                .draws("6z 7z").indicators("1111s 8p", "").replacements("6z 6z 6z 7z").deal();
+        for (String kind : new String[] {"1z", "2z", "3z"}) CHECK.due("quad", table.quad(k(kind)), 1);
+        Scene.letGo(table, k("6z"));
+        CHECK.due("fourth quad", table.quad(k("5z")), 1);
+        table.discard(k("5s"), false);
+        winFirst(table, 2);
+        worth("fifth indicator", table, 2, Check.bits(8), 3, 30, 960, 3900);
+
+        table = new Scene().hand(0, READY).hand(1, "777z 5s 147m 25p 346z").hand(2, QUIET).hand(3, QUIET)
+                .draws("1z 7z").indicators("11s", "1s 8p").replacements("6z").deal();
+        table.discard(k("1z"), true);
+        CHECK.due("quad", table.quad(k("7z")), 1);
+        table.discard(k("5s"), false);
+        winFirst(table, 0);
+        worth("under the second indicator", table, 0, Check.bits(1, 8), 5, 30, 2000, 13000);
+
+        // A dora in an open run counts once.
+        table = new Scene().hand(0, "23m 777z 678m 67s 99p 1z").hand(3, "4m").hand(1, FEEDER).hand(2, QUIET).draws("2z 2z 6z 6z 6z")
+                .indicators("2m", "").deal();
+        Scene.letGo(table, k("2z"));
+        Scene.letGoDrawn(table, 2);
+        table.discard(k("4m"), false);
+        CHECK.due("run", table.claim(0, 1, k("2m")), 1);
+        Scene.letGo(table, k("1z"));
+        table.discard(k("5s"), false);
+        winFirst(table, 0);
+        worth("dora in a run", table, 0, Check.bits(14), 2, 30, 480, 2900);
     }
 
     private static void dora() {

@@ -56,7 +56,7 @@ public final class ModelTest {
 
     public static void main(String[] args) {
         long first = args.length > 0 ? Long.parseLong(args[0]) : 1;
-        int games = args.length > 1 ? Integer.parseInt(args[1]) : 1500;
+        int games = args.length > 1 ? Integer.parseInt(args[1]) : 1000;
         int most = args.length > 2 ? Integer.parseInt(args[2]) : 512;
         int wrong = 0;
         for (long seed = first; seed < first + games && wrong < 3; seed++) {

@@ -20,6 +20,7 @@ public final class TurnTest {
         quadsNeedLeft();
         addedQuads();
         robbedQuads();
+        addedLater();
         winning();
         CHECK.end();
     }
@@ -329,6 +330,18 @@ public final class TurnTest {
         CHECK.due("who", table.who(), -1);
         CHECK.due("drawn", table.drawn(), -1);
         CHECK.due("the maker pays", table.points(1), 30000 - table.worth(2, 3));
+    }
+
+    /** What is added need not be what was drawn. */
+    private static void addedLater() {
+        RiichiTable table = addedToRob();
+        Scene.letGo(table, k("7m"));
+        Scene.letGoDrawn(table, 3);
+        CHECK.due("who", table.who(), 1);
+        CHECK.due("another one is drawn", table.drawn() == k("3s"), false);
+        CHECK.due("asks", table.quad(k("3s")), 2);
+        CHECK.due("the tile", table.drawn(), k("3s"));
+        CHECK.due("robbed", table.claim(2, 4, 0), 3);
     }
 
     private static void winning() {
