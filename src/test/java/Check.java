@@ -2,12 +2,31 @@
 final class Check {
     private int wrong;
     private int made;
+    private int sentences;
+    private String words = "";
+    private int madeBefore;
+
+    /** What is asked from here on tests these words of the document. */
+    void sentence(String quote) {
+        endSentence();
+        sentences++;
+        words = quote;
+        madeBefore = made;
+    }
+
+    private void endSentence() {
+        if (!words.isEmpty() && made == madeBefore) {
+            wrong++;
+            System.out.println("nothing is asked for: " + words);
+        }
+    }
 
     void due(String what, long got, long want) {
         made++;
         if (got != want) {
             wrong++;
-            System.out.println(what + " answered " + got + ", due is " + want);
+            System.out.println(what + " answered " + got + ", due is " + want
+                    + (words.isEmpty() ? "" : ", by: " + words));
         }
     }
 
@@ -17,7 +36,8 @@ final class Check {
 
     /** Ends the test: exit code 1 when an answer was wrong. */
     void end() {
-        System.out.println(made + " answers, " + wrong + " wrong");
+        endSentence();
+        System.out.println((sentences == 0 ? "" : sentences + " sentences, ") + made + " answers, " + wrong + " wrong");
         if (wrong != 0) System.exit(1);
     }
 

@@ -135,23 +135,13 @@ public final class EndTest {
     }
 
     /** The player of a seat has all outer kinds and wins by the first draw. */
-    private static void orphansDrawn(RiichiTable table, int seat) {
-        int[] kinds = Scene.kinds(ORPHANS);
-        for (int i = 0; i < 13; i++) CHECK.due("orphans", table.arrange(13 * seat + i, kinds[i]), true);
-        boolean there = false;
-        for (int i = 0; i < 13 && !there; i++) there = table.arrange(52 + seat, kinds[i]);
-        table.deal();
-        Scene.letGoDrawn(table, seat);
-        CHECK.due("orphans", table.win(), 13);
-    }
-
     private static void rounds() {
         RiichiTable table = new RiichiTable(2026);
         int[] points = {30000, 30000, 30000, 30000};
         for (int hand = 0; hand < 8; hand++) {
             int dealer = hand % 4;
             table("hand " + hand, table, dealer, hand / 4, 0, 0);
-            orphansDrawn(table, 1);
+            Scene.orphansDrawn(table, 1);
             for (int p = 0; p < 4; p++) points[p] += p == dealer ? -16000 : p == (dealer + 1) % 4 ? 32000 : -8000;
             points("hand " + hand, table, points);
             CHECK.due("phase", table.phase(), hand == 7 ? 4 : 3);
@@ -165,14 +155,14 @@ public final class EndTest {
         // The dealer of the last hand goes on winning.
         table = new RiichiTable(2027);
         for (int hand = 0; hand < 7; hand++) {
-            orphansDrawn(table, 1);
+            Scene.orphansDrawn(table, 1);
             table.next();
         }
-        orphansDrawn(table, 0);
+        Scene.orphansDrawn(table, 0);
         CHECK.due("not finished", table.phase(), 3);
         table("one hand more", table, 3, 1, 1, 0);
         table.next();
-        orphansDrawn(table, 1);
+        Scene.orphansDrawn(table, 1);
         CHECK.due("finished", table.phase(), 4);
         table("no honba then", table, 3, 1, 0, 0);
     }
@@ -208,7 +198,7 @@ public final class EndTest {
         for (int wind = 1; wind <= 3; wind++) {
             RiichiTable table = new RiichiTable(77);
             for (int hand = 0; hand < 4; hand++) {
-                orphansDrawn(table, 1);
+                Scene.orphansDrawn(table, 1);
                 table.next();
             }
             new Scene().hand(0, "147m 258p 39s 4567z").hand(1, "6s 147m 258p 39s 4567z").hand(2, wind + "" + wind + wind + "z 345m 678p 45s 99p")
@@ -226,7 +216,7 @@ public final class EndTest {
     private static void seatWinds() {
         for (int wind = 2; wind <= 4; wind++) {
             RiichiTable table = new RiichiTable(77);
-            orphansDrawn(table, 1);
+            Scene.orphansDrawn(table, 1);
             table.next();
             String triplet = wind + "" + wind + wind + "z";
             new Scene().hand(0, "147m 258p 39s 567z").hand(1, "147m 258p 39s 567z").hand(2, "6s 147m 258p 39s 567z")
@@ -280,7 +270,7 @@ public final class EndTest {
     private static void sticksAtTheEnd(boolean zeroIsReady) {
         RiichiTable table = new RiichiTable(5);
         for (int hand = 0; hand < 4; hand++) {
-            orphansDrawn(table, 1);
+            Scene.orphansDrawn(table, 1);
             table.next();
         }
         int[] winners = {1, 2, 0};

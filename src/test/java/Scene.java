@@ -34,6 +34,11 @@ final class Scene {
         return kinds(text)[0];
     }
 
+    /** A kind as it is told in texts. */
+    static String text(int kind) {
+        return kind % 9 + 1 + "mpsz".substring(kind / 9, kind / 9 + 1);
+    }
+
     static long mask(String text) {
         return Check.bits(kinds(text));
     }
@@ -120,6 +125,27 @@ final class Scene {
             free[kind]--;
             rest.add(kind);
         }
+    }
+
+    /** A table before the deal of a hand: all before it were won by the player behind the dealer. */
+    static RiichiTable before(int hand) {
+        RiichiTable table = new RiichiTable(9);
+        for (int i = 0; i < hand; i++) {
+            orphansDrawn(table, 1);
+            table.next();
+        }
+        return table;
+    }
+
+    /** A hand in which this seat wins by its first draw, by yaku that know no dora. */
+    static void orphansDrawn(RiichiTable table, int seat) {
+        int[] kinds = kinds("19m 19p 19s 1234567z");
+        for (int i = 0; i < 13; i++) table.arrange(13 * seat + i, kinds[i]);
+        boolean there = false;
+        for (int i = 0; i < 13 && !there; i++) there = table.arrange(52 + seat, kinds[i]);
+        table.deal();
+        letGoDrawn(table, seat);
+        if (table.win() != 13) throw new IllegalStateException("no orphans");
     }
 
     /** Lets everybody who has options answer with nothing. */
