@@ -6,6 +6,8 @@ public final class EdgesOfTilesTest {
     public static void main(String[] args) {
         fourOfEach();
         suits();
+        honours();
+        sets();
         outerKinds();
         closedHands();
         setsWithMelds();
@@ -51,6 +53,30 @@ public final class EdgesOfTilesTest {
                 CHECK.due(name + " lies there", table.meld(1, 0), isRun ? 4 * low : -1);
             }
         }
+    }
+
+    private static void sets() {
+        CHECK.sentence("A SET is a RUN (three kinds of a suit with ranks r, r + 1, r + 2; it is named by its lowest kind)");
+        for (int i = 0; i < 3; i++) {
+            RiichiTable table = rowOfThree(k("7s"), k("7s") + i);
+            table.discard(k("7s") + i, false);
+            for (int p = 2; p < 4; p++) table.claim(p, 0, 0);
+            for (int low : new int[] {k("5s"), k("6s"), k("8s"), k("9s")}) CHECK.due("named by " + low, table.claim(1, 1, low), -1);
+            CHECK.due("named by the lowest", table.claim(1, 1, k("7s")), 1);
+        }
+    }
+
+    /** Three kinds of honours in a row are no run; and pairs of all seven are honours alone. */
+    private static void honours() {
+        CHECK.sentence("31 .. 33 the DRAGONS white, green, red; together the HONOURS.");
+        for (int low = 27; low < 32; low++) {
+            HandScene scene = new HandScene(1, Scene.text(low) + Scene.text(low + 2) + "345m 678p 456s 99p", "", Scene.text(low + 1), true);
+            CHECK.due("no set of " + low, scene.play().win(), -1);
+        }
+        HandScene scene = new HandScene(1, "112233445566z 7z", "", "7z", false);
+        RiichiTable table = scene.play();
+        CHECK.due("won", scene.win(table), true);
+        CHECK.due("all seven", table.yaku(1), Check.bits(37));
     }
 
     private static RiichiTable rowOfThree(int low, int tile) {

@@ -389,14 +389,14 @@ public final class EdgesOfTurnsTest {
         CHECK.due("not of a closed quad", table.quad(k("1m")), -1);
 
         // An open triplet alone, a run with its kinds, and a triplet with its fourth tile.
-        table = new HandScene(1, "345m 678p 45s 9p", "t777z", "9p", true).play();
+        table = new HandScene(1, "345m 678p 45s 99p", "t777z", "6s", true).play();
         CHECK.due("no fourth tile", table.quad(k("7z")), -1);
         table = new HandScene(1, "777s 345m 678p 9p", "r789s", "9p", true).play();
         CHECK.due("three and one in a run", table.quad(k("7s")), -1);
-        table = new HandScene(1, "345m 678p 99p", "t777z", "7z", true).play();
+        table = new HandScene(1, "345m 678p 45s 99p", "t777z", "7z", true).play();
         CHECK.due("added", table.quad(k("7z")), 1);
         CHECK.due("open", table.meld(1, 0), 4 * k("7z") + 2);
-        table = new HandScene(1, "345m 678p 9p", "q7777z", "9p", true).play();
+        table = new HandScene(1, "345m 678p 45s 99p", "q7777z", "6s", true).play();
         CHECK.due("not of an open quad", table.quad(k("7z")), -1);
     }
 

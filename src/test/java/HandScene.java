@@ -135,6 +135,7 @@ final class HandScene {
     }
 
     RiichiTable play() {
+        if (own.size() != 13) throw new IllegalStateException("a hand of " + own.size() + " tiles");
         int[] places = new int[136];
         Arrays.fill(places, -1);
         for (int i = 0; i < own.size(); i++) places[13 * winner + i] = own.get(i);
@@ -200,7 +201,6 @@ final class HandScene {
     static void row(Check check, int seat, String hand, String melds, String last, boolean byDraw, int[] yaku, int... what) {
         String name = hand + " | " + melds + " | " + last + (byDraw ? " drawn" : "");
         HandScene test = new HandScene(seat, hand, melds, last, byDraw);
-        if (test.own.size() != 13) throw new IllegalStateException(name + " has " + test.own.size() + " tiles");
         RiichiTable table = test.play();
         check.due(name + " waits", (byDraw ? table.who() == seat && table.waits(seat) == 0 : table.waits(seat) == test.waits), true);
         check.due(name + " is won", test.win(table), what.length > 0);

@@ -140,6 +140,9 @@ final class Scene {
     /** A hand in which this seat wins by its first draw, by yaku that know no dora. */
     static void orphansDrawn(RiichiTable table, int seat) {
         int[] kinds = kinds("19m 19p 19s 1234567z");
+        int[] inner = kinds("2345678m 2345678p 2345678s");
+        // Outer kinds must not all be in the hands before; that one hand has four of one is not to be feared.
+        for (int i = 0; seat > 1 && i < 13 * seat; i++) table.arrange(i, inner[i % 21]);
         for (int i = 0; i < 13; i++) table.arrange(13 * seat + i, kinds[i]);
         boolean there = false;
         for (int i = 0; i < 13 && !there; i++) there = table.arrange(52 + seat, kinds[i]);
