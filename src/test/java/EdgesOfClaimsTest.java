@@ -275,7 +275,8 @@ public final class EdgesOfClaimsTest {
             CHECK.due("phase with winners " + winners, table.phase(), winners == 0 ? 1 : 3);
             for (int p = 1; p < 4; p++) {
                 boolean won = (winners >> p - 1 & 1) != 0;
-                CHECK.due(p + " of winners " + winners, table.yaku(p) != 0, won);
+                CHECK.due(p + " of winners " + winners, table.yaku(p), won ? p == 2 ? Check.bits(24) : Check.bits(8, 24) : 0);
+                CHECK.due("fu of " + p, table.worth(p, 1), won ? p == 2 ? 40 : 30 : -1);
                 CHECK.due("points of " + p, table.points(p) > 30000, won);
             }
         }

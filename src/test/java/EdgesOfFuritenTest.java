@@ -11,6 +11,7 @@ public final class EdgesOfFuritenTest {
         ownDiscards();
         ofThisHand();
         missedByAnswer();
+        missedAddedQuad();
         missedWithoutOptions();
         missedByOthersOptions();
         notedWhenSettled();
@@ -77,6 +78,17 @@ public final class EdgesOfFuritenTest {
             if (what != 1) table.claim(0, what == 0 ? 0 : 4, 0);
             Scene.pass(table);
             CHECK.due("missed with " + what, table.furiten(0), what == 0);
+        }
+    }
+
+    private static void missedAddedQuad() {
+        CHECK.sentence("a tile to which there were claims,");
+        for (int what = 0; what <= 4; what += 4) {
+            RiichiTable table = Phases.at(Phases.ADDED);
+            CHECK.due("before the answer", table.furiten(2), false);
+            table.claim(2, what, 0);
+            CHECK.due("tile of an added quad, answer " + what, table.furiten(2), what == 0);
+            CHECK.due("who does not wait for it", table.furiten(0), false);
         }
     }
 
@@ -334,8 +346,13 @@ public final class EdgesOfFuritenTest {
         table.quad(k("7z"));
         CHECK.due("behind one's own quad", table.win() > 0, true);
         CHECK.due("behind one's own quad", table.yaku(0) >> 40, 0);
-        // In a later hand the first go-round is there again.
-        table = Scene.before(1);
+        // In the hand behind one with calls the first go-round is there again.
+        table = new Scene().hand(0, "7z 147m 258p 369s 34z").hand(1, "77z 147m 258p 369s 34z").hand(2, READY).hand(3, QUIET).draws("6z 5s").deal();
+        table.discard(k("7z"), false);
+        table.claim(1, 2, 0);
+        Scene.letGo(table, k("3z"));
+        table.win();
+        table.next();
         new Scene().hand(0, READY).draws("5s").dealOn(table);
         CHECK.due("the next hand", table.win(), 13);
         CHECK.due("the next hand", table.yaku(1), Check.bits(40));

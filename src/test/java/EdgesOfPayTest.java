@@ -230,11 +230,15 @@ public final class EdgesOfPayTest {
         Scene.pass(table);
         CHECK.due("both won", table.yaku(0) != 0 && table.yaku(1) != 0, true);
         CHECK.due("won with another one", table.table(0), 0);
-        for (int ready = 0; ready < 2; ready++) {
-            table = new Scene().hand(0, ready == 1 ? "111m 222m 333m 444m 1z" : "1122m 3344m 567z 69s").hand(1, "555m 666m 777m 888m 2z")
-                    .hand(2, "1122p 3344p 567z 49s").hand(3, "5566p 7788p 567z 39s").deal();
-            Scene.letGoDrawn(table, 70);
-            CHECK.due("drawn out, ready " + ready, table.table(0), ready == 1 ? 0 : 1);
+        for (int dealer = 0; dealer < 4; dealer++) {
+            for (int ready = 0; ready < 2; ready++) {
+                table = Scene.before(dealer);
+                new Scene().hand(0, ready == 1 ? "111m 222m 333m 444m 1z" : "1122m 3344m 567z 69s")
+                        .hand(1, ready == 1 ? "5566m 7788m 567z 58s" : "555m 666m 777m 888m 2z")
+                        .hand(2, "1122p 3344p 567z 49s").hand(3, "5566p 7788p 567z 39s").dealOn(table);
+                Scene.letGoDrawn(table, 70);
+                CHECK.due("dealer " + dealer + ", drawn out, ready " + ready, table.table(0), (dealer + 1 - ready) % 4);
+            }
         }
     }
 

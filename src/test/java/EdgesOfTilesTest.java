@@ -7,6 +7,7 @@ public final class EdgesOfTilesTest {
         fourOfEach();
         suits();
         honours();
+        endsOfSuits();
         sets();
         outerKinds();
         closedHands();
@@ -53,6 +54,16 @@ public final class EdgesOfTilesTest {
                 CHECK.due(name + " lies there", table.meld(1, 0), isRun ? 4 * low : -1);
             }
         }
+    }
+
+    /** What would be complete, if runs went over the end of a suit. */
+    private static void endsOfSuits() {
+        CHECK.sentence("three kinds of a suit with ranks r, r + 1, r + 2;");
+        String[] hands = {"89m 1p 456p 789p 456s 3z", "9m 12p 456p 789p 456s 3z", "89p 1s 456m 789m 456s 3z", "9p 12s 456m 789m 456s 3z",
+            "89s 1z 456p 789p 456m 3z", "9s 12z 456p 789p 456m 3z", "891m 456p 789p 456s 3z", "912m 456p 789p 456s 3z"};
+        for (String hand : hands) CHECK.due(hand + " is complete", new HandScene(1, hand, "", "3z", true).play().win(), -1);
+        RiichiTable table = new HandScene(1, "789m 456p 789p 456s 3z", "", "3z", true).play();
+        CHECK.due("789m is one", table.win() > 0, true);
     }
 
     private static void sets() {
@@ -175,6 +186,9 @@ public final class EdgesOfTilesTest {
         table.quad(k("7z"));
         Scene.letGo(table, k("6z"));
         CHECK.due("five pairs behind a quad", table.waits(0), 0);
+        // Two of seven kinds each, three of them in a run that lies there.
+        table = new HandScene(1, "123m 4455p 66s 7s", "r123m", "7s", true).play();
+        CHECK.due("pairs with a run's tiles", table.win(), -1);
     }
 
     private static void orphans() {

@@ -14,6 +14,7 @@ public final class EdgesOfTurnsTest {
         riichiPoints(1000);
         riichiLeft();
         riichiReady();
+        riichiEnds();
         stickIsPaid();
         doubleRiichi();
         inRiichi();
@@ -172,6 +173,20 @@ public final class EdgesOfTurnsTest {
         Scene.pass(table);
         Scene.letGoDrawn(table, 3);
         CHECK.due("in riichi", table.discard(k("9p"), false), -1);
+    }
+
+    private static void riichiEnds() {
+        CHECK.sentence("The player is IN RIICHI from then on;");
+        RiichiTable table = new Scene().hand(0, READY).hand(1, "19m 19p 19s 1234567z").hand(2, QUIET).hand(3, QUIET).draws("1z 1z").deal();
+        table.discard(k("1z"), true);
+        Scene.pass(table);
+        CHECK.due("won", table.win(), 13);
+        table.next();
+        // The next hand: player 0 has the last turn of the first go-round.
+        new Scene().hand(0, QUIET).hand(1, QUIET).hand(2, QUIET).hand(3, "77z 147m 258p 369s 1z").draws("1z 1z 2z 2z").dealOn(table);
+        Scene.letGoDrawn(table, 3);
+        CHECK.due("who", table.who(), 0);
+        CHECK.due("not in riichi any more", table.discard(k("1m"), false) > 0, true);
     }
 
     private static void stickIsPaid() {
@@ -398,6 +413,8 @@ public final class EdgesOfTurnsTest {
         CHECK.due("open", table.meld(1, 0), 4 * k("7z") + 2);
         table = new HandScene(1, "345m 678p 45s 99p", "q7777z", "6s", true).play();
         CHECK.due("not of an open quad", table.quad(k("7z")), -1);
+        table = new HandScene(1, "5s", "t222m r456p c6666s a3333z", "5s", true).play();
+        for (int kind = 0; kind < 34; kind++) CHECK.due("with four melds, quad of " + kind, table.quad(kind), -1);
     }
 
     private static void closedIsNotRobbed() {

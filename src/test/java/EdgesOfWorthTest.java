@@ -162,7 +162,19 @@ public final class EdgesOfWorthTest {
 
     private static void riichi() {
         CHECK.sentence("0 riichi 1, 1 double riichi 2 (then not 0),");
-        RiichiTable table = quiet().hand(0, READY).draws("1z 7z").deal();
+        // Alone it is a yaku, too.
+        RiichiTable table = new Scene().hand(0, "234m 678m 345p 68s 99p").hand(1, "7s 147m 258p 34z 1s 2s").hand(2, QUIET).hand(3, QUIET)
+                .draws("1z 7z 7z 7z 6z 7z 6z 6z 4z 1z").indicators("1s", "1s").deal();
+        Scene.letGoDrawn(table, 4);
+        table.discard(table.drawn(), true);
+        Scene.letGoDrawn(table, 4);
+        table.discard(k("7s"), false);
+        table.claim(0, 4, 0);
+        Scene.pass(table);
+        CHECK.due("riichi alone", table.yaku(0), Check.bits(0));
+        CHECK.due("one han", table.worth(0, 0), 1);
+
+        table = quiet().hand(0, READY).draws("1z 7z").deal();
         table.discard(k("1z"), true);
         feed("double riichi", table, 1, 2, 8);
         CHECK.due("han", table.worth(0, 0), 4);
@@ -252,10 +264,11 @@ public final class EdgesOfWorthTest {
         RiichiTable table = Phases.at(Phases.ADDED);
         table.claim(2, 4, 0);
         CHECK.due("robbed", table.yaku(2), Check.bits(5));
+        table = robbedInRiichi();
+        table.claim(0, 4, 0);
+        CHECK.due("1 for riichi, 1 before the next discard, 1 for robbing", table.worth(0, 0), 3);
         // The same hand by a discard has no yaku at all.
         taken("123m 678m 345p 12s 99p", "", "3s", NONE);
-        // Robbing is possible before the last tile is drawn alone, and is no win by a discard.
-        CHECK.due("left", table.table(4) > 0, true);
     }
 
     private static void replacement() {
@@ -296,7 +309,8 @@ public final class EdgesOfWorthTest {
             RiichiTable table = nearTheEnd(left, "234m 678m 345p 67s 22m", "");
             int p = table.who();
             CHECK.due("won", table.win() > 0, true);
-            CHECK.due("left " + left, table.yaku(p) & Check.bits(3, 4, 6), left == 0 ? Check.bits(3, 6) : Check.bits(3));
+            CHECK.due("left " + left, table.yaku(p), left == 0 ? Check.bits(3, 6, 8, 24) : Check.bits(3, 8, 24));
+            CHECK.due("han with left " + left, table.worth(p, 0), left == 0 ? 4 : 3);
         }
         // A quad at LEFT 1 leaves 0; the replacement is no last draw.
         RiichiTable table = nearTheEnd(1, "2222z 678m 345p 67s 5s", "5s");
@@ -326,6 +340,7 @@ public final class EdgesOfWorthTest {
             table.claim(p, 4, 0);
             Scene.pass(table);
             CHECK.due("left " + left, table.yaku(p), left == 0 ? Check.bits(7, 24) : Check.bits(24));
+            CHECK.due("han with left " + left, table.worth(p, 0), left == 0 ? 2 : 1);
         }
     }
 
@@ -429,6 +444,16 @@ public final class EdgesOfWorthTest {
         taken("999s 11z 33z", "t111m t999p", "3z", y(19, 25), 4, 50, 2000, 8000);
         has(17, false, "999s 11z 33z", "t111m t999p", "3z");
         has(18, false, "111m 999m 11p 99p", "t111s", "1p");
+        // Each honour will do, in a triplet or as the pair; and each set is looked at.
+        for (int kind = 27; kind < 34; kind++) {
+            has(17, true, "123m 789p 13s 99m" + Scene.text(kind).repeat(3), "", "2s");
+            has(17, true, "123m 789p 999s 13s" + Scene.text(kind).repeat(2), "", "2s");
+        }
+        has(17, false, "234m 789p 999s 13s 33z", "", "2s");
+        has(17, false, "123m 789p 777s 13s 33z", "", "2s");
+        has(17, false, "123m 234p 999s 13s 33z", "", "2s");
+        has(17, false, "789p 13s 33z 123m", "r234m", "2s");
+        has(18, false, "234m 789p 999s 13s 11p", "", "2s");
     }
 
     private static void tripletsAndQuads() {
@@ -447,6 +472,7 @@ public final class EdgesOfWorthTest {
         taken("345s 3z", "c2222m a4444p q6666s", "3z", y(21), 2, 60, 960, 3900);
         taken("345s 3z", "c2222m c4444p c6666s", "3z", y(20, 21), 4, 80, 2000, 8000);
         has(21, false, "345s 3z", "c2222m a4444p t666s", "3z");
+        has(21, true, "5s", "c2222m q4444p a6666s t333z", "5s");
     }
 
     private static void sameRanks() {
@@ -535,11 +561,59 @@ public final class EdgesOfWorthTest {
         taken("77z 345m 67p", "t555z t666z", "8p", y(12, 13, 23), 4, 30, 1920, 7700);
         taken("567p 45s 88s 345m", "r234m", "6s", y(24), 1, 30, 240, 1000);
         taken("999s 11z 33z", "t111m t999p", "3z", y(19, 25), 4, 50, 2000, 8000);
+        openByWhatHappened();
 
         CHECK.sentence("A closed quad counts as closed.");
         has(20, true, "345s 3z", "c2222m c4444p c6666s", "3z");
         has(32, true, "222m 777s 5s 333z", "c4444p", "5s");
         CHECK.due("closed with a closed quad", yakuOf("345m 678p 45s 99p", "c3333z", "6s", true), Check.bits(3));
+    }
+
+    /** Open hands whose only yaku are 4, 5, 6 and 7: they are worth one han. */
+    private static void openByWhatHappened() {
+        RiichiTable table = new Scene().hand(1, "3z 147m 258p 39s 14z").hand(0, "333z 234m 678m 345p 6s").hand(2, "147m 258p 39s 5z").hand(3, "147m 258p 39s 5z")
+                .draws("6z 6z 1z").indicators("11s", "").replacements("6s").deal();
+        Scene.letGo(table, k("6z"));
+        table.discard(k("3z"), false);
+        table.claim(0, 3, 0);
+        CHECK.due("4 in an open hand", table.win(), 1);
+        CHECK.due("4 in an open hand", table.yaku(0), Check.bits(4));
+
+        table = new Scene().hand(0, "4z 159m 159p 15s 1266z").hand(1, "33s 22z 7m 37p 339m 5m 6m 8s")
+                .hand(2, "44z 1z 123m 678m 12s 99p").hand(3, "3s 258m 258p 8s 2z 77z 9s").draws("5z 5z 5z 6z 6z 3s").indicators("4z", "").deal();
+        table.discard(k("4z"), false);
+        table.claim(2, 2, 0);
+        Scene.letGo(table, k("1z"));
+        table.discard(k("3s"), false);
+        table.claim(1, 2, 0);
+        Scene.pass(table);
+        Scene.letGo(table, k("5m"));
+        Scene.letGoDrawn(table, 3);
+        CHECK.due("added", table.quad(k("3s")), 2);
+        table.claim(2, 4, 0);
+        CHECK.due("5 in an open hand", table.yaku(2), Check.bits(5));
+        CHECK.due("5 in an open hand", table.worth(2, 0), 1);
+
+        for (int last = 6; last <= 7; last++) {
+            table = new Scene().hand(0, "3z 77z 147m 258p 8s 49s 1z").hand(1, "33z 7z 234m 678m 67s 99p").hand(2, "5588s 147m 258p 146z")
+                    .hand(3, "58s 147m 258p 13469s").put(121, "5s").indicators("1z", "").deal();
+            table.discard(k("3z"), false);
+            table.claim(1, 2, 0);
+            table.discard(k("7z"), false);
+            // When player 0 takes 7z, player 1 draws last, else player 2.
+            table.claim(0, last == 6 ? 2 : 0, 0);
+            if (last == 6) Scene.letGo(table, k("1m"));
+            Scene.letGoDrawn(table, 68);
+            CHECK.due("left", table.table(4), 0);
+            if (last == 6) {
+                table.win();
+            } else {
+                table.discard(k("5s"), false);
+                table.claim(1, 4, 0);
+            }
+            CHECK.due(last + " in an open hand", table.yaku(1), Check.bits(last));
+            CHECK.due(last + " in an open hand", table.worth(1, 0), 1);
+        }
     }
 
     private static void limitHan() {
@@ -601,6 +675,10 @@ public final class EdgesOfWorthTest {
             has(35, false, three + "99p 35m", "", "4m");
             has(35, false, three + "55z 35m", "", "4m");
             has(36, false, three + two + "35m", "", "4m");
+            has(36, false, three + two + "11m", "", "1m");
+            // Two winds and another triplet.
+            String first = three.substring(0, 12);
+            for (String other : new String[] {"111m", "999s", "555z"}) has(35, false, first + other + two + "35m", "", "4m");
         }
         taken("111z 222z 33z 44z 345m", "", "3z", y(35), 13, 50, 8000, 32000);
         taken("111z 222z 333z 44z 55m", "", "4z", y(36), 13, 60, 8000, 32000);
@@ -621,8 +699,11 @@ public final class EdgesOfWorthTest {
         taken("234s 88s 66s", "r234s t666z", "6s", y(39), 13, 30, 8000, 32000);
         has(39, true, "223344s 66s 88s", "t666z", "6s");
         has(39, true, "222333s 666s 88s 44s", "", "8s");
-        for (String other : new String[] {"5s", "7s", "1s", "9s", "2p", "5z", "7z"}) {
-            has(39, false, "234s 234s 66s" + other.repeat(2), "t666z", "6s");
+        for (int kind = 0; kind < 34; kind++) {
+            // Of 6s and 6z there are not two more.
+            if (kind == k("6s") || kind == k("6z")) continue;
+            boolean green = kind >= k("2s") && kind <= k("4s") || kind == k("8s");
+            has(39, green, "234s 234s 66s" + Scene.text(kind).repeat(2), "t666z", "6s");
         }
     }
 
@@ -703,6 +784,10 @@ public final class EdgesOfWorthTest {
         for (int i = 0; i < pairs.length; i++) {
             boolean worth = i == 0 || i == 1 || i == 4 || i == 5;
             taken("222p 456m 68s" + pairs[i], "t777z", "7s", y(14), 1, worth ? 40 : 30, worth ? 320 : 240, worth ? 1300 : 1000);
+        }
+        // 28 before the pair: 2 make 30.
+        for (String pair : new String[] {"11z", "22z", "33z", "55z", "66z"}) {
+            taken("222p 456m 67s" + pair, "t777z", "8s", y(14), 1, 30, 240, 1000);
         }
         // Both winds of the dealer: 28 and 4 are more than 30, 28 and 2 are not.
         HandScene.row(CHECK, 0, "222p 456m 67s 11z", "t777z", "8s", false, y(14), 1, 40, 320, 2000);

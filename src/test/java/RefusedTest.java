@@ -39,11 +39,42 @@ public final class RefusedTest {
             game.play();
             game.repeat();
         }
+        inRiichi();
         String[] names = {"arrange", "deal", "discard", "riichi", "quad", "win", "claim", "next"};
         for (int i = 0; i < names.length; i++) CHECK.due(names[i] + " was refused", REFUSED[i] > 50, true);
         CHECK.sentence("An object is used for at most 512 calls after it has been made");
         manyCalls();
         CHECK.end();
+    }
+
+    /** What riichi has brought is still there behind all calls that are refused in it. */
+    private static void inRiichi() {
+        for (int refuse = 0; refuse < 2; refuse++) {
+            RiichiTable table = new Scene().hand(0, "234m 678m 345p 67s 99p").hand(1, "147m 258p 369s 345z").hand(2, "147m 258p 369s 345z")
+                    .hand(3, "147m 258p 369s 345z").draws("1z 2z 2z 2z 5s").indicators("1s", "1s").deal();
+            table.discard(Scene.kind("1z"), true);
+            for (int turn = 0; turn < 4; turn++) {
+                if (refuse == 1 && turn % 2 == 1) refuseAll(table);
+                if (turn < 3) Scene.letGoDrawn(table, 1);
+            }
+            CHECK.due("won in riichi, refused " + refuse, table.win(), 5);
+            CHECK.due("its yaku, refused " + refuse, table.yaku(0), Check.bits(1, 2, 3, 8));
+        }
+    }
+
+    private static void refuseAll(RiichiTable table) {
+        int who = table.who();
+        for (int kind = 0; kind < 34; kind++) {
+            boolean held = table.concealed(who, kind) > 0;
+            if (!held || who == 0 && kind != table.drawn()) CHECK.due("discard", table.discard(kind, false), -1);
+            CHECK.due("riichi", table.discard(kind, true), -1);
+            CHECK.due("quad", table.quad(kind), -1);
+        }
+        for (int p = 0; p < 4; p++) for (int what = 0; what < 5; what++) CHECK.due("claim", table.claim(p, what, 0), -1);
+        CHECK.due("deal", table.deal(), false);
+        CHECK.due("next", table.next(), false);
+        CHECK.due("arrange", table.arrange(60, 5), false);
+        if (who != 0) CHECK.due("win", table.win(), -1);
     }
 
     private static int call(RiichiTable table, int[] move) {
@@ -67,9 +98,30 @@ public final class RefusedTest {
         }
     }
 
-    /** Keeps a move that was allowed. */
-    private boolean make(RiichiTable table, int... move) {
-        int answer = call(table, move);
+    private static int callPlain(PlainTable table, int[] move) {
+        switch (move[0]) {
+            case ARRANGE:
+                return table.arrange(move[1], move[2]) ? 1 : -1;
+            case DEAL:
+                return table.deal() ? 1 : -1;
+            case DISCARD:
+                return table.discard(move[1], false);
+            case RIICHI:
+                return table.discard(move[1], true);
+            case QUAD:
+                return table.quad(move[1]);
+            case WIN:
+                return table.win();
+            case CLAIM:
+                return table.claim(move[1], move[2], move[3]);
+            default:
+                return table.next() ? 1 : -1;
+        }
+    }
+
+    /** Keeps a move that is allowed. */
+    private boolean make(PlainTable table, int... move) {
+        int answer = callPlain(table, move);
         if (answer == -1) return false;
         moves.add(move);
         answers.add(answer);
@@ -77,7 +129,7 @@ public final class RefusedTest {
     }
 
     private void play() {
-        RiichiTable table = new RiichiTable(seed);
+        PlainTable table = new PlainTable(seed);
         String[] hands = {"234m 678m 345p 67s 99p", "55z 46p 33m 789s 222s 7p", "77z 88p 99m 666s 13s 55p", "19m 19p 19s 1234567z"};
         for (int s = 0; s < 4 && seed % 3 != 0; s++) {
             int[] kinds = Scene.kinds(hands[(s + seed) % 4]);
@@ -85,26 +137,26 @@ public final class RefusedTest {
         }
         make(table, DEAL);
         boolean ends = seed % 4 == 1;
-        for (int i = 0; i < 140 && table.phase() < 3; i++) {
-            if (table.phase() == 1) turn(table, ends);
+        for (int i = 0; i < 140 && table.phase < 3; i++) {
+            if (table.phase == 1) turn(table, ends);
             else answer(table, ends);
         }
         if (make(table, NEXT)) make(table, DEAL);
     }
 
-    private void turn(RiichiTable table, boolean ends) {
+    private void turn(PlainTable table, boolean ends) {
         if (ends && chance.nextInt(3) == 0 && make(table, WIN)) return;
         for (int kind = 0; kind < 34; kind++) if (chance.nextInt(3) == 0 && make(table, QUAD, kind)) return;
         for (int kind = 0; kind < 34; kind++) if (chance.nextInt(8) == 0 && make(table, RIICHI, kind)) return;
         int from = chance.nextInt(34);
-        int wish = chance.nextInt(3) == 0 ? from : table.drawn();
+        int wish = chance.nextInt(3) == 0 ? from : table.tile;
         for (int i = 0; i < 35; i++) if (make(table, DISCARD, i == 0 ? wish : (from + i) % 34)) return;
     }
 
-    private void answer(RiichiTable table, boolean ends) {
+    private void answer(PlainTable table, boolean ends) {
         int p = chance.nextInt(4);
         int what = chance.nextInt(ends ? 5 : 4);
-        make(table, CLAIM, p, what, table.drawn() - chance.nextInt(3));
+        make(table, CLAIM, p, what, table.tile - chance.nextInt(3));
     }
 
     private void repeat() {
