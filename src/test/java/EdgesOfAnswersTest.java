@@ -147,7 +147,7 @@ public final class EdgesOfAnswersTest {
         int[] want = {4 * k("4p") + 2, 4 * k("2m") + 1, 4 * k("6s") + 3, -1};
         for (int i = 0; i < 4; i++) CHECK.due("meld " + i, table.meld(1, i), want[i]);
         // The triplet is made first, then another one, and only then the quad is added to the first.
-        table = new Scene().hand(0, "5z 6z 147m 258p 36s").hand(1, "55z 66z 37m 37p 39s 124z").hand(2, QUIET.replace("5z", "")).hand(3, QUIET.replace("5z", ""))
+        table = new Scene().hand(0, "5z 6z 147m 258p 36s").hand(1, "55z 66z 37m 37p 39s 124z").hand(2, "147m 258p 369s 34z").hand(3, "147m 258p 369s 34z")
                 .draws("7z 2z 2z 7z 2z 7z 7z 5z").replacements("3m").deal();
         table.discard(k("5z"), false);
         table.claim(1, 2, 0);

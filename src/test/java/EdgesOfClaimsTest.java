@@ -295,7 +295,7 @@ public final class EdgesOfClaimsTest {
         for (int what = 0; what <= 3; what++) {
             for (int run = 0; run < 2; run++) {
                 if (what == 1) continue;
-                RiichiTable table = new Scene().hand(0, "5p 1m 9m").hand(1, "46p 159m 159s 345z 7z 6z").hand(2, QUIET.replace("258p", "28p"))
+                RiichiTable table = new Scene().hand(0, "5p 1m 9m").hand(1, "46p 159m 159s 345z 7z 6z").hand(2, "147m 28p 369s 345z")
                         .hand(3, "555p 147m 369s 346z 9m").draws("1z 2z").deal();
                 table.discard(k("5p"), false);
                 options("run and quad", table, 0, RUN, 0, TRIPLET + QUAD);
@@ -338,8 +338,8 @@ public final class EdgesOfClaimsTest {
         CHECK.sentence("Who takes a run or triplet has the next turn, with nothing drawn;"
                 + " who takes a quad completes it, and has the turn with the replacement drawn.");
         for (int what = 1; what <= 3; what++) {
-            RiichiTable table = new Scene().hand(0, "5p 1m 9m").hand(1, "4556p 5p 159m 159s 34z").hand(2, QUIET.replace("258p", "28p"))
-                    .hand(3, QUIET.replace("258p", "28p")).draws("1z 2z").replacements("6z").deal();
+            RiichiTable table = new Scene().hand(0, "5p 1m 9m").hand(1, "4556p 5p 159m 159s 34z").hand(2, "147m 28p 369s 345z")
+                    .hand(3, "147m 28p 369s 345z").draws("1z 2z").replacements("6z").deal();
             table.discard(k("5p"), false);
             CHECK.due("taken", table.claim(1, what, k("4p")), 1);
             CHECK.due("whose turn", table.who(), 1);
@@ -367,7 +367,8 @@ public final class EdgesOfClaimsTest {
     }
 
     private static void optionsAnswers() {
-        CHECK.sentence("the sum of 2 for RUN, 4 for TRIPLET, 8 for QUAD, 16 for WIN; 0 when there are none, or the phase is not CLAIMS."
+        CHECK.sentence("The options that player p has and has not answered yet:"
+                + " the sum of 2 for RUN, 4 for TRIPLET, 8 for QUAD, 16 for WIN; 0 when there are none, or the phase is not CLAIMS."
                 + " BAD when p is not 0 .. 3.");
         for (int which = 0; which < Phases.MANY; which++) {
             RiichiTable table = Phases.at(which);

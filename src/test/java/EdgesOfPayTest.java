@@ -151,7 +151,7 @@ public final class EdgesOfPayTest {
 
     /** Two sticks of players 1 and 2 go to player 3, who wins by a draw. */
     private static void sticks() {
-        CHECK.sentence("The sticks on the table go to the winner,");
+        CHECK.sentence("HONBA counters and STICKS (of 1000 points each) lie on the table.");
         RiichiTable table = new Scene().hand(0, "258m 147p 34z").hand(1, READY).hand(2, "234m 678m 345p 67s 33z").hand(3, "19m 19p 19s 1234567z")
                 .draws("1z 1z 1z 9s").indicators("2z", "").deal();
         Scene.letGoDrawn(table, 1);

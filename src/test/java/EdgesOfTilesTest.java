@@ -79,7 +79,7 @@ public final class EdgesOfTilesTest {
 
     /** Three kinds of honours in a row are no run; and pairs of all seven are honours alone. */
     private static void honours() {
-        CHECK.sentence("31 .. 33 the DRAGONS white, green, red; together the HONOURS.");
+        CHECK.sentence("27 .. 30 are the WINDS east, south, west, north, 31 .. 33 the DRAGONS white, green, red; together the HONOURS.");
         for (int low = 27; low < 32; low++) {
             HandScene scene = new HandScene(1, Scene.text(low) + Scene.text(low + 2) + "345m 678p 456s 99p", "", Scene.text(low + 1), true);
             CHECK.due("no set of " + low, scene.play().win(), -1);

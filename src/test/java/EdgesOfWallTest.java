@@ -35,7 +35,8 @@ public final class EdgesOfWallTest {
 
     /** Every place is seen: by the deal and the draws, and the last ones by where a kind can't be found. */
     private static void shuffle() {
-        CHECK.sentence("for i from 135 down to 1 the tiles at i and at DRAW(i + 1) change places.");
+        CHECK.sentence("THE WALL has 136 places. It is shuffled from tiles 0 .. 135 in order (tile t is of kind t / 4):"
+                + " for i from 135 down to 1 the tiles at i and at DRAW(i + 1) change places.");
         for (int seed : SEEDS) {
             int[] tiles = new PlainTable(seed).wall;
             RiichiTable table = new RiichiTable(seed);
@@ -65,7 +66,7 @@ public final class EdgesOfWallTest {
     }
 
     private static void draws() {
-        CHECK.sentence("the draw is x without its highest bit, modulo n.");
+        CHECK.sentence("DRAW(n): x = x ^ x << 13, then x = x ^ x >>> 17, then x = x ^ x << 5; the draw is x without its highest bit, modulo n.");
         // The first draw of seed 0x80000000 has its highest bit set: 135 changes places with that one modulo 136.
         int x = Integer.MIN_VALUE;
         x = x ^ x << 13;
@@ -294,6 +295,8 @@ public final class EdgesOfWallTest {
             CHECK.due("deal in phase " + which, table.deal(), which == Phases.WALL);
             CHECK.due("phase then", table.phase(), which == Phases.WALL ? 1 : Phases.phaseOf(which));
         }
+
+        CHECK.sentence("The dealer draws first.");
         for (int dealer = 0; dealer < 4; dealer++) {
             RiichiTable table = Scene.before(dealer);
             table.deal();

@@ -90,7 +90,12 @@ public final class EdgesOfWorthTest {
     }
 
     private static void readings() {
-        CHECK.sentence("with the last tile in each set (that is no meld) or pair that has its kind.");
+        CHECK.sentence("A complete hand is read in every way: as ORPHANS, as SEVEN PAIRS, or taken apart into sets and a pair,");
+        taken("223344m 667788p 9s", "", "9s", y(27), 3, 40, 1280, 5200);
+        taken("223344m 66p 77p 99p 9s", "", "9s", y(26), 2, 25, 400, 1600);
+        taken("19m 19p 19s 1234567z", "", "1m", y(30), 13, 30, 8000, 32000);
+
+        CHECK.sentence("and for those with the last tile in each set (that is no meld) or pair that has its kind.");
         // In 567 it is worth nothing, in the middle of 456 it would be worth 2 fu more: that is a meld.
         taken("222p 67s 55z", "r456s t777z", "5s", y(14), 1, 30, 240, 1000);
         taken("222p 46s 55z", "r567s t777z", "5s", y(14), 1, 40, 320, 1300);
@@ -209,13 +214,6 @@ public final class EdgesOfWorthTest {
         Scene.letGoDrawn(table, 4);
         feed("behind the next discard", table, 0, 8);
 
-        table = inRiichi(quiet().hand(1, "5s 147m 258p 34z 1s 2s 7z").hand(2, "77z 147m 258p 69s 34z").hand(3, "147m 258p 39s 345z 1z 1z")
-                .draws("1z 6z 6z 6z 4z 1z"));
-        table.discard(k("7z"), false);
-        CHECK.due("a call", table.claim(2, 2, 0), 1);
-        Scene.letGo(table, k("1m"));
-        Scene.letGoDrawn(table, 1);
-        CHECK.due("the player has drawn and discards", table.who(), 0);
         table = inRiichi(quiet().hand(2, "77z 147m 258p 69s 34z 5s").draws("1z 6z 6z 6z 4z 7z"));
         table.discard(k("7z"), false);
         table.claim(2, 2, 0);
@@ -342,6 +340,23 @@ public final class EdgesOfWorthTest {
             CHECK.due("left " + left, table.yaku(p), left == 0 ? Check.bits(7, 24) : Check.bits(24));
             CHECK.due("han with left " + left, table.worth(p, 0), left == 0 ? 2 : 1);
         }
+        discardBehindAQuad();
+    }
+
+    /** A quad at LEFT 1 leaves 0; what is discarded then is the last discard. */
+    private static void discardBehindAQuad() {
+        Scene scene = new Scene().hand(0, "2222z 5p 147m 28p 39s").hand(1, "147m 28p 39s 34z").hand(2, "345m 678m 46p 678s 88s")
+                .hand(3, "555p 14m 28p 39s 34z").indicators("11z", "");
+        RiichiTable table = scene.deal();
+        Scene.letGoDrawn(table, 68);
+        CHECK.due("left", table.table(4), 1);
+        CHECK.due("quad", table.quad(k("2z")), 1);
+        CHECK.due("left then", table.table(4), 0);
+        table.discard(k("5p"), false);
+        CHECK.due("winning alone", table.options(2), 16);
+        table.claim(2, 4, 0);
+        Scene.pass(table);
+        CHECK.due("behind a quad", table.yaku(2), Check.bits(7, 24));
     }
 
     private static void flat() {
@@ -408,18 +423,19 @@ public final class EdgesOfWorthTest {
             String run = "" + rank + (rank + 1) + (rank + 2);
             String middle = rank + 1 + "s";
             String ends = "" + rank + (rank + 2) + "s";
-            has(15, true, run + "m" + run + "p" + ends + "888s".replace("8", rank > 5 ? "1" : "9") + "33z", "", middle);
+            String triplet = rank > 5 ? "111" : "999";
+            has(15, true, run + "m" + run + "p" + ends + triplet + "s 33z", "", middle);
             int other = rank == 7 ? 6 : rank + 1;
             String run2 = "" + other + (other + 1) + (other + 2);
-            has(15, false, run2 + "m" + run + "p" + ends + "999m".replace("9", rank > 5 ? "1" : "9") + "33z", "", middle);
+            has(15, false, run2 + "m" + run + "p" + ends + triplet + "m 33z", "", middle);
         }
         taken("345m 345p 35s 789m 33z", "", "4s", y(15), 2, 40, 640, 2600);
         taken("345p 35s 789m 33z", "r345m", "4s", y(15), 1, 30, 240, 1000);
         for (String suit : new String[] {"m", "p", "s"}) {
             String other = suit.equals("m") ? "p" : "m";
             has(16, true, "123456789" + suit + "46" + other + "33z", "", "5" + other);
-            has(16, false, "123456" + suit + "789" + other + "22" + other + "46s".replace("s", suit.equals("s") ? "p" : "s"), "",
-                    "5" + (suit.equals("s") ? "p" : "s"));
+            String third = suit.equals("s") ? "p" : "s";
+            has(16, false, "123456" + suit + "22789" + other + "46" + third, "", "5" + third);
             has(16, false, "123567789" + suit + "46" + other + "33z", "", "5" + other);
         }
         taken("123456789m 46p 33z", "", "5p", y(16), 2, 40, 640, 2600);
