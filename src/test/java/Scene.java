@@ -25,6 +25,7 @@ final class Scene {
                 ranks.clear();
             }
         }
+        if (!ranks.isEmpty()) throw new IllegalStateException("ranks without a suit: " + text);
         int[] all = new int[found.size()];
         for (int i = 0; i < all.length; i++) all[i] = found.get(i);
         return all;
