@@ -340,27 +340,7 @@ public final class EdgesOfPayTest {
 
     /** Players 1 and 2 have most points at the end and are level, or player 0 has most. */
     private static void levelAtTheEnd(boolean zeroIsReady) {
-        RiichiTable table = new RiichiTable(5);
-        for (int hand = 0; hand < 4; hand++) {
-            Scene.orphansDrawn(table, 1);
-            table.next();
-        }
-        int[] winners = {1, 2, 0};
-        for (int hand = 0; hand < 3; hand++) {
-            int seat = (winners[hand] - hand + 4) % 4;
-            int[] kinds = Scene.kinds("19m 19p 19s 1234567z");
-            int loser = 3 - hand;
-            for (int place = 0; place < 52; place++) {
-                if (place / 13 == seat) table.arrange(place, kinds[place % 13]);
-                if (place == 13 * loser) table.arrange(place, k("1m"));
-            }
-            table.deal();
-            Scene.letGoDrawn(table, loser);
-            table.discard(k("1m"), false);
-            table.claim(winners[hand], 4, 0);
-            Scene.pass(table);
-            table.next();
-        }
+        RiichiTable table = Scene.levelBeforeTheLastHand();
         changes("before the last hand", table, new int[4], 62000, 62000, 62000, -66000);
         new Scene().hand(0, "14m 149p 369s 2345z").hand(1, zeroIsReady ? "111s 222s 333s 444s 7z" : "14m 149p 369s 2345z")
                 .hand(2, "555m 666m 777m 888m 7z").hand(3, "555p 666p 777p 888p 6z").draws("1z 1z 1z 1z").dealOn(table);

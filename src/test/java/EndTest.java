@@ -268,29 +268,7 @@ public final class EndTest {
 
     /** Players 1 and 2 are level when the last hand is drawn out: 1 gets the sticks, or else player 0. */
     private static void sticksAtTheEnd(boolean zeroIsReady) {
-        RiichiTable table = new RiichiTable(5);
-        for (int hand = 0; hand < 4; hand++) {
-            Scene.orphansDrawn(table, 1);
-            table.next();
-        }
-        int[] winners = {1, 2, 0};
-        for (int hand = 0; hand < 3; hand++) {
-            int seat = (winners[hand] - hand + 4) % 4;
-            int[] kinds = Scene.kinds(ORPHANS);
-            int loser = 3 - hand;
-            for (int place = 0; place < 52; place++) {
-                if (place / 13 == seat) table.arrange(place, kinds[place % 13]);
-                if (place == 13 * loser) table.arrange(place, k("1m"));
-            }
-            table.deal();
-            Scene.letGoDrawn(table, loser);
-            CHECK.due("the loser", table.who(), 3);
-            table.discard(k("1m"), false);
-            table.claim(winners[hand], 4, 0);
-            Scene.pass(table);
-            CHECK.due("lost", table.phase(), 3);
-            table.next();
-        }
+        RiichiTable table = Scene.levelBeforeTheLastHand();
         points("before the last hand", table, 62000, 62000, 62000, -66000);
         table("before the last hand", table, 3, 1, 0, 0);
         new Scene().hand(0, "14m 149p 369s 2345z").hand(1, zeroIsReady ? "111s 222s 333s 444s 7z" : "14m 149p 369s 2345z").hand(2, "555m 666m 777m 888m 7z")

@@ -38,6 +38,8 @@ public final class ModelTest {
     private double riichiWill;
     private double readyWill;
 
+    /** More calls than a new hand needs before its first turn. */
+    private static final int CALLS_OF_START = 90;
     private static final long[] SEEN = new long[64];
     private static int wins;
     private static int finished;
@@ -98,6 +100,7 @@ public final class ModelTest {
         boolean quick = chance.nextInt(5) == 0;
         while (made < most) {
             int before = plain.phase;
+            if (before == 0 && made > most - CALLS_OF_START) break;
             if (before == 0) {
                 startHand(quick);
             } else if (before == 1) {
@@ -110,7 +113,7 @@ public final class ModelTest {
                 break;
             }
             if (before < 3 && plain.phase >= 3) noteEnd();
-            if (chance.nextInt(10) == 0) doWrong();
+            if (chance.nextInt(10) == 0 && made < most) doWrong();
             look(most > 512 ? 1 : quick ? 0.004 : 0.03);
         }
         if (plain.phase == 4) {

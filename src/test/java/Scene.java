@@ -152,6 +152,36 @@ final class Scene {
         if (table.win() != 13) throw new IllegalStateException("no orphans");
     }
 
+    /**
+     * A table before the deal of its last hand: players 0, 1 and 2 are level, all
+     * by tiles of player 3. It takes few calls, so that the last hand can be played.
+     */
+    static RiichiTable levelBeforeTheLastHand() {
+        RiichiTable table = before(4);
+        int[] kinds = kinds("19m 19p 19s 1234567z");
+        int[] winners = {1, 2, 0};
+        for (int hand = 0; hand < 3; hand++) {
+            int seat = (winners[hand] - hand + 4) % 4;
+            int loser = 3 - hand;
+            for (int place = 0; place < 52; place++) {
+                if (place / 13 == seat) table.arrange(place, kinds[place % 13]);
+                if (place == 13 * loser) table.arrange(place, kinds[0]);
+            }
+            // What is drawn before must be inner, or the winner would be furiten.
+            for (int i = 0; i < loser; i++) {
+                boolean there = false;
+                for (int kind = 1; kind < 8 && !there; kind++) there = table.arrange(52 + i, kind);
+            }
+            table.deal();
+            letGoDrawn(table, loser);
+            table.discard(kinds[0], false);
+            table.claim(winners[hand], 4, 0);
+            pass(table);
+            if (!table.next()) throw new IllegalStateException("not won by player " + winners[hand]);
+        }
+        return table;
+    }
+
     /** Lets everybody who has options answer with nothing. */
     static void pass(RiichiTable table) {
         for (int p = 0; p < 4; p++) if (table.options(p) > 0) table.claim(p, 0, 0);
